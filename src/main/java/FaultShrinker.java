@@ -408,7 +408,7 @@ public final class FaultShrinker {
         }
 
         boolean holds(int rule, int kinds) {
-            return hasRule(rule) && needed[rule] != 0
+            return rule >= 0 && rule < size && needed[rule] != 0
                 && (kinds & needed[rule]) == needed[rule] && (kinds & spared[rule]) == 0;
         }
 

@@ -573,7 +573,7 @@ public final class PromiseTests {
         y.setSpares(0, 4, true);
         needing(y, 1, 2, 3, 4);
         Check.no("without what spares rule 0 it spoils still", y.isTight(15));
-        Check.yes("two can be spared, but none alone", tightWithTwoTooMany());
+        Check.yes("two places can be spared, but none alone", tightWithTwoTooMany());
     }
 
     /** Rule 0 holds for 1 alone, 2 and 3 spare it, and rule 1 needs all three. */
@@ -596,6 +596,11 @@ public final class PromiseTests {
         // Without 0, 1, 2, 3 there are left 1 2 3, 0 2 3, 0 1 3 and 0 1 2: they take 4, 4, 5 and 5.
         Check.same("advise(): of several the smallest", x.advise(), 0);
         Check.same("one ingredient", adviceForOne(), 0);
+        FaultShrinker z = rowOf(5);
+        needing(z, 0, 1);
+        needing(z, 4);
+        // By halves it takes 5, 5, 4, 4 and 4; one by one it would take 5 without any of them.
+        Check.same("advise() is of the search by halves", z.advise(), 2);
         FaultShrinker y = recipeOf(5, 5, 6, 6, 7);
         needing(y, 7);
         y.shrink();
@@ -625,6 +630,8 @@ public final class PromiseTests {
         x.rule();
         x.rule();
         Check.same("mean() of six", x.mean(), 10.0 / 6);
+        x.setNeeds(0, 11, true);
+        Check.same("the first counts", x.mean(), 11.0 / 6);
     }
 
     // ---- promise 19
