@@ -1,8 +1,5 @@
 /** Each promise of the document with ordinary inputs, its edges and wrong inputs; worked out by hand. */
 public final class PromiseTests {
-    private static final int MIN = Integer.MIN_VALUE;
-    private static final int MAX = Integer.MAX_VALUE;
-
     private PromiseTests() {
     }
 
@@ -37,59 +34,6 @@ public final class PromiseTests {
         Check.end("PromiseTests");
     }
 
-    // ---- makers
-
-    private static FaultShrinker recipeOf(int... kinds) {
-        FaultShrinker x = new FaultShrinker();
-        for (int kind : kinds) {
-            x.add(kind);
-        }
-        return x;
-    }
-
-    /** The kinds 0, 1, 2 and on, each once. */
-    private static FaultShrinker rowOf(int places) {
-        FaultShrinker x = new FaultShrinker();
-        for (int place = 0; place < places; place++) {
-            x.add(place);
-        }
-        return x;
-    }
-
-    private static int needing(FaultShrinker x, int... kinds) {
-        int rule = x.rule();
-        for (int kind : kinds) {
-            x.setNeeds(rule, kind, true);
-        }
-        return rule;
-    }
-
-    private static long folded(long... numbers) {
-        long d = 1499;
-        for (long number : numbers) {
-            d = d * 31 + number;
-        }
-        return d;
-    }
-
-    private static void steps(FaultShrinker x, int[][] due) {
-        Check.same("steps", x.count(4), due.length);
-        for (int step = 0; step < due.length; step++) {
-            for (int what = 0; what < 5; what++) {
-                Check.same("step(" + step + ", " + what + ")", x.step(step, what), due[step][what]);
-            }
-        }
-    }
-
-    private static void keptList(FaultShrinker x, int... due) {
-        Check.same("places of the kept list", x.count(3), due.length);
-        for (int place = 0; place < due.length; place++) {
-            Check.same("kept(" + place + ")", x.kept(place), due[place]);
-        }
-        Check.outOfBounds("kept behind the list", () -> x.kept(due.length));
-        Check.outOfBounds("kept(-1)", () -> x.kept(-1));
-    }
-
     // ---- promise 1
 
     private static void newObject() {
@@ -118,7 +62,7 @@ public final class PromiseTests {
         Check.same("add of a kind again", x.add(15), 3);
         Check.same("kind(0)", x.kind(0), 0);
         Check.same("kind(2)", x.kind(2), 15);
-        for (int kind : new int[] {-1, 16, MIN, MAX}) {
+        for (int kind : new int[] {-1, 16, Make.MIN, Make.MAX}) {
             Check.outOfBounds("add(" + kind + ")", () -> x.add(kind));
         }
         for (int places = 4; places <= 24; places++) {
@@ -133,8 +77,8 @@ public final class PromiseTests {
     }
 
     private static void drop() {
-        FaultShrinker x = recipeOf(5, 6, 7, 8);
-        for (int place : new int[] {-1, 4, MIN, MAX}) {
+        FaultShrinker x = Make.recipeOf(5, 6, 7, 8);
+        for (int place : new int[] {-1, 4, Make.MIN, Make.MAX}) {
             Check.outOfBounds("drop(" + place + ")", () -> x.drop(place));
         }
         Check.same("drop(1)", x.drop(1), 6);
@@ -157,11 +101,11 @@ public final class PromiseTests {
     }
 
     private static void kind() {
-        FaultShrinker x = recipeOf(4, 0, 15);
+        FaultShrinker x = Make.recipeOf(4, 0, 15);
         Check.same("kind(0)", x.kind(0), 4);
         Check.same("kind(1)", x.kind(1), 0);
         Check.same("kind(2)", x.kind(2), 15);
-        for (int place : new int[] {-1, 3, 23, 24, MIN, MAX}) {
+        for (int place : new int[] {-1, 3, 23, 24, Make.MIN, Make.MAX}) {
             Check.outOfBounds("kind(" + place + ")", () -> x.kind(place));
         }
     }
@@ -195,10 +139,10 @@ public final class PromiseTests {
         Check.yes("it needed 3 until now", x.setNeeds(0, 3, false));
         Check.no("it needed 3 no more", x.setNeeds(0, 3, false));
         Check.same("it needs 15", x.told(0, 0), 32768);
-        for (int rule : new int[] {-1, 2, 6, MIN, MAX}) {
+        for (int rule : new int[] {-1, 2, 6, Make.MIN, Make.MAX}) {
             Check.outOfBounds("setNeeds of rule " + rule, () -> x.setNeeds(rule, 0, true));
         }
-        for (int kind : new int[] {-1, 16, MIN, MAX}) {
+        for (int kind : new int[] {-1, 16, Make.MIN, Make.MAX}) {
             Check.outOfBounds("setNeeds of kind " + kind, () -> x.setNeeds(0, kind, false));
         }
         x.setSpares(0, 7, true);
@@ -223,10 +167,10 @@ public final class PromiseTests {
         Check.yes("3 spared it until now", x.setSpares(1, 3, false));
         Check.no("3 spared it no more", x.setSpares(1, 3, false));
         Check.same("15 spares it", x.told(1, 1), 32768);
-        for (int rule : new int[] {-1, 2, 6, MIN, MAX}) {
+        for (int rule : new int[] {-1, 2, 6, Make.MIN, Make.MAX}) {
             Check.outOfBounds("setSpares of rule " + rule, () -> x.setSpares(rule, 0, true));
         }
-        for (int kind : new int[] {-1, 16, MIN, MAX}) {
+        for (int kind : new int[] {-1, 16, Make.MIN, Make.MAX}) {
             Check.outOfBounds("setSpares of kind " + kind, () -> x.setSpares(1, kind, false));
         }
         x.setNeeds(1, 7, true);
@@ -239,8 +183,8 @@ public final class PromiseTests {
     }
 
     private static void told() {
-        FaultShrinker x = recipeOf(1, 2, 3);
-        needing(x, 1, 3);
+        FaultShrinker x = Make.recipeOf(1, 2, 3);
+        Make.needing(x, 1, 3);
         x.setSpares(0, 4, true);
         x.setSpares(0, 0, true);
         Check.same("told(0, 0)", x.told(0, 0), 2 + 8);
@@ -258,16 +202,16 @@ public final class PromiseTests {
         Check.same("told(1, 2) of it", x.told(1, 2), 0);
         Check.outOfBounds("told(-1, 0)", () -> x.told(-1, 0));
         Check.outOfBounds("told(2, 0)", () -> x.told(2, 0));
-        for (int what : new int[] {-1, 5, MIN, MAX}) {
+        for (int what : new int[] {-1, 5, Make.MIN, Make.MAX}) {
             Check.outOfBounds("told(0, " + what + ")", () -> x.told(0, what));
         }
     }
 
     private static void toldOfTheKeptSearch() {
-        FaultShrinker x = recipeOf(9, 1, 9, 2);
-        needing(x, 1, 2);
+        FaultShrinker x = Make.recipeOf(9, 1, 9, 2);
+        Make.needing(x, 1, 2);
         x.shrink();
-        keptList(x, 1, 3);
+        Make.checkKept(x, 1, 3);
         Check.same("told(0, 4)", x.told(0, 4), 1);
         x.drop(1);
         x.drop(0);
@@ -281,7 +225,7 @@ public final class PromiseTests {
         x.setNeeds(0, 1, false);
         x.setSpares(0, 1, true);
         Check.same("told(0, 4) spared by what was in it", x.told(0, 4), 0);
-        needing(x, 2);
+        Make.needing(x, 2);
         Check.same("told(1, 4) of a later rule", x.told(1, 4), 1);
         x.drop(1);
         x.shrink();
@@ -289,9 +233,9 @@ public final class PromiseTests {
     }
 
     private static void spoils() {
-        FaultShrinker x = recipeOf(1, 2, 1, 3);
+        FaultShrinker x = Make.recipeOf(1, 2, 1, 3);
         Check.no("without rules", x.spoils(15));
-        needing(x, 1, 3);
+        Make.needing(x, 1, 3);
         Check.yes("all of them", x.spoils(15));
         Check.yes("the places 0 and 3", x.spoils(9));
         Check.yes("the places 2 and 3", x.spoils(12));
@@ -300,13 +244,13 @@ public final class PromiseTests {
         x.setSpares(0, 2, true);
         Check.no("all of them, spared", x.spoils(15));
         Check.yes("the places 0, 2 and 3", x.spoils(13));
-        needing(x, 2);
+        Make.needing(x, 2);
         Check.yes("another rule holds", x.spoils(2));
         x.rule();
         Check.no("a rule that needs nothing holds for none", x.spoils(1));
         x.setSpares(2, 9, true);
         Check.no("nor if something spares it", x.spoils(1));
-        for (int dish : new int[] {-1, 16, 31, 1 << 24, MIN, MAX}) {
+        for (int dish : new int[] {-1, 16, 31, 1 << 24, Make.MIN, Make.MAX}) {
             Check.badArgument("spoils(" + dish + ")", () -> x.spoils(dish));
         }
         Check.same("spoils is no tasting", x.count(6), 0);
@@ -314,7 +258,7 @@ public final class PromiseTests {
         for (int place = 0; place < 24; place++) {
             full.add(place % 16);
         }
-        needing(full, 7);
+        Make.needing(full, 7);
         Check.yes("24 places", full.spoils((1 << 24) - 1));
         Check.yes("the last place", full.spoils(1 << 23));
         Check.badArgument("a 25th place", () -> full.spoils(1 << 24));
@@ -323,11 +267,11 @@ public final class PromiseTests {
     // ---- promises 10 to 13
 
     private static void shrinkByComplements() {
-        FaultShrinker x = rowOf(8);
-        needing(x, 2, 7);
+        FaultShrinker x = Make.rowOf(8);
+        Make.needing(x, 2, 7);
         Check.same("shrink()", x.shrink(), 16);
-        keptList(x, 2, 7);
-        steps(x, new int[][] {
+        Make.checkKept(x, 2, 7);
+        Make.checkSteps(x, new int[][] {
             {8, 2, 3, -1, 255}, {8, 4, 2, 0, 252}, {6, 3, 2, 1, 204},
             {4, 2, 3, -1, 204}, {4, 4, 2, 1, 196}, {3, 3, 2, 1, 132}});
         Check.same("a second search knows nothing of the first", x.shrink(), 16);
@@ -335,117 +279,117 @@ public final class PromiseTests {
     }
 
     private static void shrinkByParts() {
-        FaultShrinker x = rowOf(8);
-        needing(x, 2);
+        FaultShrinker x = Make.rowOf(8);
+        Make.needing(x, 2);
         x.setSpares(0, 0, true);
-        needing(x, 0, 7);
+        Make.needing(x, 0, 7);
         Check.same("shrink() with a part of four", x.shrink(), 6);
-        keptList(x, 2);
-        steps(x, new int[][] {{8, 2, 3, -1, 255}, {8, 4, 1, 1, 12}, {2, 2, 1, 0, 4}});
-        FaultShrinker y = rowOf(8);
-        needing(y, 6);
+        Make.checkKept(x, 2);
+        Make.checkSteps(x, new int[][] {{8, 2, 3, -1, 255}, {8, 4, 1, 1, 12}, {2, 2, 1, 0, 4}});
+        FaultShrinker y = Make.rowOf(8);
+        Make.needing(y, 6);
         Check.same("shrink() by parts of two", y.shrink(), 6);
-        steps(y, new int[][] {{8, 2, 1, 1, 240}, {4, 2, 1, 1, 192}, {2, 2, 1, 0, 64}});
+        Make.checkSteps(y, new int[][] {{8, 2, 1, 1, 240}, {4, 2, 1, 1, 192}, {2, 2, 1, 0, 64}});
     }
 
     private static void shrinkWithUnevenParts() {
-        FaultShrinker x = rowOf(5);
-        needing(x, 0, 1, 2, 3, 4);
+        FaultShrinker x = Make.rowOf(5);
+        Make.needing(x, 0, 1, 2, 3, 4);
         Check.same("shrink() of five that are all needed", x.shrink(), 15);
-        keptList(x, 0, 1, 2, 3, 4);
-        steps(x, new int[][] {{5, 2, 3, -1, 31}, {5, 4, 3, -1, 31}});
-        FaultShrinker y = rowOf(3);
-        needing(y, 1);
+        Make.checkKept(x, 0, 1, 2, 3, 4);
+        Make.checkSteps(x, new int[][] {{5, 2, 3, -1, 31}, {5, 4, 3, -1, 31}});
+        FaultShrinker y = Make.rowOf(3);
+        Make.needing(y, 1);
         Check.same("shrink() of three: the cut is behind the first", y.shrink(), 4);
-        steps(y, new int[][] {{3, 2, 1, 1, 6}, {2, 2, 1, 0, 2}});
+        Make.checkSteps(y, new int[][] {{3, 2, 1, 1, 6}, {2, 2, 1, 0, 2}});
     }
 
     private static void shrinkAtTheEdges() {
         FaultShrinker empty = new FaultShrinker();
         Check.same("shrink() of an empty recipe", empty.shrink(), 1);
-        keptList(empty);
-        FaultShrinker x = rowOf(3);
-        needing(x, 9);
+        Make.checkKept(empty);
+        FaultShrinker x = Make.rowOf(3);
+        Make.needing(x, 9);
         Check.same("shrink() where nothing spoils", x.shrink(), 1);
-        keptList(x);
-        steps(x, new int[][] {});
-        FaultShrinker one = recipeOf(9);
-        needing(one, 9);
+        Make.checkKept(x);
+        Make.checkSteps(x, new int[][] {});
+        FaultShrinker one = Make.recipeOf(9);
+        Make.needing(one, 9);
         Check.same("shrink() of one place", one.shrink(), 1);
-        keptList(one, 0);
-        FaultShrinker two = recipeOf(9, 8);
-        needing(two, 8, 9);
+        Make.checkKept(one, 0);
+        FaultShrinker two = Make.recipeOf(9, 8);
+        Make.needing(two, 8, 9);
         Check.same("shrink() of two that are both needed", two.shrink(), 3);
-        keptList(two, 0, 1);
-        steps(two, new int[][] {});
-        FaultShrinker same = recipeOf(9, 9);
-        needing(same, 9);
+        Make.checkKept(two, 0, 1);
+        Make.checkSteps(two, new int[][] {});
+        FaultShrinker same = Make.recipeOf(9, 9);
+        Make.needing(same, 9);
         Check.same("shrink() takes the first part that spoils", same.shrink(), 2);
-        keptList(same, 0);
+        Make.checkKept(same, 0);
     }
 
     private static void kept() {
-        FaultShrinker x = rowOf(6);
+        FaultShrinker x = Make.rowOf(6);
         Check.outOfBounds("kept(0) without a kept search", () -> x.kept(0));
-        needing(x, 1, 4, 5);
+        Make.needing(x, 1, 4, 5);
         x.would(0);
         x.advise();
         Check.outOfBounds("kept(0) after searches that are not kept", () -> x.kept(0));
         x.shrink();
-        keptList(x, 1, 4, 5);
-        for (int place : new int[] {3, 24, MIN, MAX}) {
+        Make.checkKept(x, 1, 4, 5);
+        for (int place : new int[] {3, 24, Make.MIN, Make.MAX}) {
             Check.outOfBounds("kept(" + place + ")", () -> x.kept(place));
         }
     }
 
     private static void keptStays() {
-        FaultShrinker x = rowOf(8);
-        needing(x, 2, 7);
+        FaultShrinker x = Make.rowOf(8);
+        Make.needing(x, 2, 7);
         x.shrink();
         x.drop(7);
         x.drop(0);
         x.add(11);
         x.setNeeds(0, 2, false);
-        needing(x, 3);
+        Make.needing(x, 3);
         for (int what = 0; what < 5; what++) {
             x.would(what);
         }
         x.advise();
         x.digest();
-        keptList(x, 2, 7);
-        steps(x, new int[][] {
+        Make.checkKept(x, 2, 7);
+        Make.checkSteps(x, new int[][] {
             {8, 2, 3, -1, 255}, {8, 4, 2, 0, 252}, {6, 3, 2, 1, 204},
             {4, 2, 3, -1, 204}, {4, 4, 2, 1, 196}, {3, 3, 2, 1, 132}});
         Check.same("its tastings", x.count(5), 16);
         x.setNeeds(1, 3, false);
         x.setNeeds(0, 7, false);
         Check.same("shrink() where nothing spoils any more", x.shrink(), 1);
-        keptList(x);
+        Make.checkKept(x);
         Check.same("it has no steps", x.count(4), 0);
         Check.outOfBounds("step(0, 0) of it", () -> x.step(0, 0));
     }
 
     private static void step() {
-        FaultShrinker x = rowOf(8);
-        needing(x, 2, 7);
+        FaultShrinker x = Make.rowOf(8);
+        Make.needing(x, 2, 7);
         Check.outOfBounds("step(0, 0) without a kept search", () -> x.step(0, 0));
         x.would(2);
         Check.outOfBounds("step(0, 0) after a search that is not kept", () -> x.step(0, 0));
         x.shrink();
         Check.same("step(5, 4)", x.step(5, 4), 132);
-        for (int step : new int[] {-1, 6, 127, 128, MIN, MAX}) {
+        for (int step : new int[] {-1, 6, 127, 128, Make.MIN, Make.MAX}) {
             Check.outOfBounds("step(" + step + ", 0)", () -> x.step(step, 0));
         }
-        for (int what : new int[] {-1, 5, MIN, MAX}) {
+        for (int what : new int[] {-1, 5, Make.MIN, Make.MAX}) {
             Check.outOfBounds("step(0, " + what + ")", () -> x.step(0, what));
         }
     }
 
     private static void count() {
-        FaultShrinker x = rowOf(8);
-        needing(x, 2, 7);
-        needing(x, 9);
-        needing(x, 1);
+        FaultShrinker x = Make.rowOf(8);
+        Make.needing(x, 2, 7);
+        Make.needing(x, 9);
+        Make.needing(x, 1);
         x.rule();
         Check.same("count(0)", x.count(0), 8);
         Check.same("count(1)", x.count(1), 4);
@@ -465,7 +409,7 @@ public final class PromiseTests {
         x.shrink();
         Check.same("count(5) of the latest", x.count(5), 1);
         Check.same("count(6) of both", x.count(6), 17);
-        for (int what : new int[] {-1, 7, MIN, MAX}) {
+        for (int what : new int[] {-1, 7, Make.MIN, Make.MAX}) {
             Check.outOfBounds("count(" + what + ")", () -> x.count(what));
         }
     }
@@ -473,8 +417,8 @@ public final class PromiseTests {
     // ---- promises 14 to 18
 
     private static void would() {
-        FaultShrinker x = rowOf(8);
-        needing(x, 2, 7);
+        FaultShrinker x = Make.rowOf(8);
+        Make.needing(x, 2, 7);
         Check.same("would(0)", x.would(0), 132);
         Check.same("would(1)", x.would(1), 16);
         Check.same("would(2)", x.would(2), 6);
@@ -487,7 +431,7 @@ public final class PromiseTests {
         Check.same("would(2) there", x.would(2), 0);
         Check.same("would(3) there", x.would(3), 0);
         Check.same("would(4) there", x.would(4), 1);
-        for (int what : new int[] {-1, 5, MIN, MAX}) {
+        for (int what : new int[] {-1, 5, Make.MIN, Make.MAX}) {
             Check.outOfBounds("would(" + what + ")", () -> x.would(what));
         }
         FaultShrinker empty = new FaultShrinker();
@@ -499,39 +443,39 @@ public final class PromiseTests {
     }
 
     private static void wouldOneByOne() {
-        FaultShrinker x = rowOf(3);
-        needing(x, 0, 1);
-        needing(x, 2);
+        FaultShrinker x = Make.rowOf(3);
+        Make.needing(x, 0, 1);
+        Make.needing(x, 2);
         Check.same("halves find the last", x.would(0), 4);
         Check.same("with tastings", x.would(1), 5);
         Check.same("in steps", x.would(2), 2);
         Check.same("one by one spares the last first", x.would(3), 3);
         Check.same("with tastings", x.would(4), 4);
-        FaultShrinker y = rowOf(3);
-        needing(y, 0);
+        FaultShrinker y = Make.rowOf(3);
+        Make.needing(y, 0);
         Check.same("the only one left is not spared", y.would(3), 1);
         Check.same("nor is it looked at without it", y.would(4), 3);
-        FaultShrinker one = recipeOf(4);
-        needing(one, 4);
+        FaultShrinker one = Make.recipeOf(4);
+        Make.needing(one, 4);
         Check.same("one place", one.would(3), 1);
         Check.same("one tasting", one.would(4), 1);
         FaultShrinker full = new FaultShrinker();
         for (int place = 0; place < 24; place++) {
             full.add(place < 23 ? place % 15 : 15);
         }
-        needing(full, 15);
+        Make.needing(full, 15);
         Check.same("the last of 24", full.would(3), 1 << 23);
         Check.same("each is looked at once", full.would(4), 25);
     }
 
     private static void least() {
-        FaultShrinker x = recipeOf(1, 1, 2, 3);
+        FaultShrinker x = Make.recipeOf(1, 1, 2, 3);
         Check.same("least() without rules", x.least(), 0);
-        needing(x, 1, 2, 3);
+        Make.needing(x, 1, 2, 3);
         Check.same("least() of three kinds", x.least(), 3);
-        needing(x, 1, 3);
+        Make.needing(x, 1, 3);
         Check.same("least() of two", x.least(), 2);
-        needing(x, 9);
+        Make.needing(x, 9);
         Check.same("least() is not of what there is not", x.least(), 2);
         x.rule();
         Check.same("least() is not of a rule that needs nothing", x.least(), 2);
@@ -543,66 +487,66 @@ public final class PromiseTests {
         Check.same("least() if none spoils", x.least(), 0);
         x.add(9);
         Check.same("least() of one", x.least(), 1);
-        FaultShrinker y = recipeOf(1, 2, 3);
-        needing(y, 1);
+        FaultShrinker y = Make.recipeOf(1, 2, 3);
+        Make.needing(y, 1);
         y.setSpares(0, 2, true);
         Check.same("nothing to shrink", y.would(1), 1);
         Check.same("least() all the same", y.least(), 1);
     }
 
     private static void isTight() {
-        FaultShrinker x = recipeOf(1, 2, 1, 3);
-        needing(x, 1, 2);
+        FaultShrinker x = Make.recipeOf(1, 2, 1, 3);
+        Make.needing(x, 1, 2);
         Check.yes("the places 0 and 1", x.isTight(3));
         Check.yes("the places 1 and 2", x.isTight(6));
         Check.no("either of two is spared", x.isTight(7));
         Check.no("the last is spared", x.isTight(11));
         Check.no("it does not spoil", x.isTight(5));
         Check.no("nothing", x.isTight(0));
-        needing(x, 3);
+        Make.needing(x, 3);
         Check.yes("one place", x.isTight(8));
         Check.no("the first can be spared", x.isTight(9));
         x.setSpares(1, 1, true);
         Check.no("it is spared by 1", x.isTight(9));
         Check.no("0 and 1 can be spared, each", x.isTight(11));
-        for (int dish : new int[] {-1, 16, 1 << 24, MIN, MAX}) {
+        for (int dish : new int[] {-1, 16, 1 << 24, Make.MIN, Make.MAX}) {
             Check.badArgument("isTight(" + dish + ")", () -> x.isTight(dish));
         }
-        FaultShrinker y = recipeOf(1, 2, 3, 4);
-        needing(y, 1, 2);
+        FaultShrinker y = Make.recipeOf(1, 2, 3, 4);
+        Make.needing(y, 1, 2);
         y.setSpares(0, 4, true);
-        needing(y, 1, 2, 3, 4);
+        Make.needing(y, 1, 2, 3, 4);
         Check.no("without what spares rule 0 it spoils still", y.isTight(15));
         Check.yes("two places can be spared, but none alone", tightWithTwoTooMany());
     }
 
     /** Rule 0 holds for 1 alone, 2 and 3 spare it, and rule 1 needs all three. */
     private static boolean tightWithTwoTooMany() {
-        FaultShrinker x = recipeOf(1, 2, 3);
-        needing(x, 1);
+        FaultShrinker x = Make.recipeOf(1, 2, 3);
+        Make.needing(x, 1);
         x.setSpares(0, 2, true);
         x.setSpares(0, 3, true);
-        needing(x, 1, 2, 3);
+        Make.needing(x, 1, 2, 3);
         return x.spoils(1) && x.isTight(7);
     }
 
     private static void advise() {
         Check.same("advise() of an empty recipe", new FaultShrinker().advise(), -1);
-        FaultShrinker x = rowOf(4);
+        FaultShrinker x = Make.rowOf(4);
         Check.same("advise() where nothing spoils", x.advise(), 0);
-        needing(x, 2);
+        Make.needing(x, 2);
         Check.same("advise(): nothing spoils without 2", x.advise(), 2);
-        needing(x, 3);
+        Make.needing(x, 3);
         // Without 0, 1, 2, 3 there are left 1 2 3, 0 2 3, 0 1 3 and 0 1 2: they take 4, 4, 5 and 5.
         Check.same("advise(): of several the smallest", x.advise(), 0);
         Check.same("one ingredient", adviceForOne(), 0);
-        FaultShrinker z = rowOf(5);
-        needing(z, 0, 1);
-        needing(z, 4);
+        FaultShrinker z = Make.rowOf(5);
+        Make.needing(z, 0, 1);
+        Make.needing(z, 4);
         // By halves it takes 5, 5, 4, 4 and 4; one by one it would take 5 without any of them.
         Check.same("advise() is of the search by halves", z.advise(), 2);
-        FaultShrinker y = recipeOf(5, 5, 6, 6, 7);
-        needing(y, 7);
+        FaultShrinker y = Make.recipeOf(5, 5, 6, 6, 7);
+        Make.needing(y, 7);
         y.shrink();
         long before = y.digest();
         Check.same("advise(): the last", y.advise(), 4);
@@ -610,8 +554,8 @@ public final class PromiseTests {
     }
 
     private static int adviceForOne() {
-        FaultShrinker x = recipeOf(3);
-        needing(x, 3);
+        FaultShrinker x = Make.recipeOf(3);
+        Make.needing(x, 3);
         return x.advise();
     }
 
@@ -620,12 +564,12 @@ public final class PromiseTests {
         Check.same("mean() without rules", x.mean(), 0.0);
         x.rule();
         Check.same("mean() of a rule that needs nothing", x.mean(), 0.0);
-        needing(x, 1, 2, 3);
+        Make.needing(x, 1, 2, 3);
         Check.same("mean() of 0 and 3", x.mean(), 1.5);
         x.setSpares(1, 9, true);
         Check.same("what spares does not count", x.mean(), 1.5);
-        needing(x, 4);
-        needing(x, 5, 6, 7, 8, 9, 10);
+        Make.needing(x, 4);
+        Make.needing(x, 5, 6, 7, 8, 9, 10);
         Check.same("mean() of 0, 3, 1 and 6", x.mean(), 2.5);
         x.rule();
         x.rule();
@@ -638,20 +582,20 @@ public final class PromiseTests {
 
     private static void digest() {
         Check.same("digest() of a new object", new FaultShrinker().digest(),
-            folded(0, 0, 0, 0, 0, 0, 0, 0, 1, 0, 0, 1, 0));
-        FaultShrinker x = recipeOf(4, 2);
-        needing(x, 2);
+            Make.folded(0, 0, 0, 0, 0, 0, 0, 0, 1, 0, 0, 1, 0));
+        FaultShrinker x = Make.recipeOf(4, 2);
+        Make.needing(x, 2);
         x.setSpares(0, 9, true);
         Check.same("digest() without a kept search", x.digest(),
-            folded(2, 1, 1, 0, 0, 0, 0, 4, 2, 4, 512, 1, 1, 0, 2, 3, 1, 2, 3, 1));
+            Make.folded(2, 1, 1, 0, 0, 0, 0, 4, 2, 4, 512, 1, 1, 0, 2, 3, 1, 2, 3, 1));
     }
 
     private static void digestOfASearch() {
-        FaultShrinker x = rowOf(3);
-        needing(x, 0, 1);
-        needing(x, 2);
+        FaultShrinker x = Make.rowOf(3);
+        Make.needing(x, 0, 1);
+        Make.needing(x, 2);
         x.shrink();
-        Check.same("digest() of a kept search", x.digest(), folded(
+        Check.same("digest() of a kept search", x.digest(), Make.folded(
             3, 2, 2, 1, 2, 5, 5,
             0, 1, 2,
             3, 0, 2, 1, 0, 4, 0, 1, 1, 1,
@@ -671,7 +615,7 @@ public final class PromiseTests {
             x.add(place * 7 % 16);
         }
         for (int rule = 0; rule < 6; rule++) {
-            needing(x, rule, 15 - rule);
+            Make.needing(x, rule, 15 - rule);
         }
         x.setSpares(0, 4, true);
         x.shrink();
