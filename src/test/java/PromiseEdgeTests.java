@@ -1031,18 +1031,19 @@ public final class PromiseEdgeTests {
     // In its order: what count() tells, kinds, rules, the kept list, its steps, what would() tells, least().
     private static void digestInItsOrder() {
         FaultShrinker x = Make.rowOf(3);
-        Make.needing(x, 2);
+        Make.needing(x, 0);
+        x.shrink();
         x.shrink();
         x.drop(0);
-        x.add(7);
+        x.add(0);
         Make.sparing(x, Make.needing(x, 7), 15);
         Check.same("digest()", x.digest(), Make.folded(
-            3, 2, 2, 1, 2, 5, 5,
-            1, 2, 7,
-            4, 0, 1, 1, 1, 128, 32768, 1, 1, 0,
-            2,
-            3, 2, 1, 1, 6, 2, 2, 1, 1, 4,
-            2, 4, 2, 2, 4, 1));
+            3, 2, 1, 1, 1, 2, 4,
+            1, 2, 0,
+            1, 0, 1, 1, 1, 128, 32768, 1, 0, 0,
+            0,
+            3, 2, 1, 0, 1,
+            4, 5, 2, 4, 4, 1));
     }
 
     // The same of a kept search without list and steps: there are no numbers of them.
